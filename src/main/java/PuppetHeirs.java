@@ -473,7 +473,7 @@ public final class PuppetHeirs {
     }
 
     public int orphans() {
-        return now.orphans(family);
+        return now.lackingHands(family);
     }
 
     public int idle() {
@@ -559,7 +559,7 @@ public final class PuppetHeirs {
         liveFates(seed, q, n);
         switch (what) {
             case 0: return Integer.bitCount(asked.alive(family));
-            case 1: return Integer.bitCount(asked.orphans(family));
+            case 1: return Integer.bitCount(asked.lackingHands(family));
             case 2: return Integer.bitCount(actsPlayed(asked, asked.alive(family)));
             default: return asked.allStrings(family);
         }
@@ -1250,7 +1250,7 @@ public final class PuppetHeirs {
         }
     }
 
-    /** Whom a puppet prefers: the law's expression, told by what comes first to be reckoned. */
+    /** Whom a puppet prefers: the law's expression, in the order in which it is reckoned. */
     private static final class Law {
         private static final int LIMP = 1000;
         private static final int FALL = 1001;
@@ -1417,7 +1417,7 @@ public final class PuppetHeirs {
             switch (word) {
                 case LIMP: return state.limp[hand];
                 case FALL: return family.fall[puppet];
-                case AGE: return state.ageOf(family, hand);
+                case AGE: return state.year - family.born[hand];
                 case WORKS: return Integer.bitCount(state.works[hand]);
                 case STRINGS: return state.strings[puppet];
                 case YEAR: return state.year;
@@ -1599,14 +1599,14 @@ public final class PuppetHeirs {
             return Math.max(0, family.needs[puppet] - Integer.bitCount(handsOf(puppet)));
         }
 
-        int orphans(Family family) {
-            int orphans = 0;
+        int lackingHands(Family family) {
+            int lacking = 0;
             for (int p = 0; p < family.puppets; p++) {
                 if (lackOf(family, p) > 0) {
-                    orphans |= 1 << p;
+                    lacking |= 1 << p;
                 }
             }
-            return orphans;
+            return lacking;
         }
 
         int allStrings(Family family) {

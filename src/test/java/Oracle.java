@@ -259,7 +259,7 @@ final class Oracle {
         switch (k.text) {
             case "limp": return (w, p, h) -> w.hands.get(h).limp;
             case "fall": return (w, p, h) -> w.told.puppets.get(p).fall;
-            case "age": return (w, p, h) -> Math.max(0, w.year - w.told.hands.get(h).born);
+            case "age": return (w, p, h) -> w.year - w.told.hands.get(h).born;
             case "works": return (w, p, h) -> w.hands.get(h).works.size();
             case "strings": return (w, p, h) -> w.strings[p];
             case "year": return (w, p, h) -> w.year;
