@@ -41,6 +41,17 @@ final class CastSentences extends Sentences {
         answer("string", 1, 1);
         is(2, "casts", 0);
         is(2, "casts", 1);
+        // the first has STRINGS, the second has not: nobody is cast at all, whatever was cast before
+        told(HAND + HAND + "puppet 1 1 9;puppet 1 1 4;act 0 0 1 end;act 5 0 1 end;");
+        is(2, "casts", 0);
+        is(1, "cast", 0, 0);
+        is(3, "thumbs", 0);
+        is(3, "reach", 0);
+        is(0, "casts", 1);
+        is(0, "cast", 1, 0);
+        is(0, "cast", 1, 1);
+        is(0, "thumbs", 1);
+        is(1, "played");
     }
 
     private void handsAlive() {
@@ -61,6 +72,20 @@ final class CastSentences extends Sentences {
         is(0, "casts", 1);
         answer("dies", 2);
         is(0, "casts", 0);
+        // each one and each two of nine, the others having quarrelled with it
+        for (int h = 0; h < 9; h++) {
+            for (int g = 0; g <= h; g++) {
+                StringBuilder two = new StringBuilder(HAND.repeat(9) + "puppet 1 " + (g == h ? 1 : 2) + " 9;act 0 0 end;");
+                for (int other = 0; other < 9; other++) {
+                    if (other != h && other != g) two.append("quarrel ").append(other).append(" 0;");
+                }
+                told(two.toString());
+                is(1, "casts", 0);
+                is(1 << h | 1 << g, "cast", 0, 0);
+                is(1 << h | 1 << g, "thumbs", 0);
+                is(1, "reach", h);
+            }
+        }
         // it gets HANDS whoever works it, and they may work as many as they do
         told(HAND + HAND + PUPPET.repeat(5) + "works 0 0;works 1 1;works 1 2;works 1 3;works 1 4;act 0 0 end;");
         is(2, "casts", 0);
@@ -311,6 +336,15 @@ final class CastSentences extends Sentences {
         is(3, "played");
         is(0, "both", 0, 1);
 
+        // one way is enough
+        told(HAND + HAND + PUPPET + PUPPET + "quarrel 0 0;act 0 0 end;act 0 1 end;");
+        is(1, "both", 0, 1);
+        is(1, "both", 1, 0);
+        told(HAND + HAND + PUPPET + PUPPET + "quarrel 0 0;quarrel 1 1;act 0 0 end;act 0 1 end;");
+        is(1, "both", 0, 1);
+        answer("dies", 0);
+        is(0, "both", 0, 1);
+
         against(46, "BOTH.");
         told(HAND.repeat(9) + PUPPET.repeat(7) + "puppet 1 2 9;act 0 0 1 2 3 4 5 end;act 0 6 7 end;");
         is(1, "both", 0, 1);
@@ -380,6 +414,14 @@ final class CastSentences extends Sentences {
         answer("string", 2, 1);
         is(6, "reach", 0);
         is(5, "reach", 1);
+
+        // 1 can't have puppet 0, so 0 never has puppet 1
+        told(HAND + HAND + PUPPET + PUPPET + "quarrel 1 0;act 0 0 1 end;");
+        is(1, "reach", 0);
+        is(2, "reach", 1);
+        // an ACT that can't be CAST for the want of one PUPPET's STRINGS gives nobody to the others
+        told(HAND + HAND + PUPPET + "puppet 1 1 0;" + PUPPET + "act 0 0 end;act 1 2 1 end;");
+        is(1, "reach", 0);
 
         against(49, "REACH, as bits.");
         told(HAND + "hand 1 2 3;" + PUPPET.repeat(8) + "act 0 0 end;act 0 7 end;act 0 6 end;act 0 0 1 end;act 0 5 end;");

@@ -126,6 +126,7 @@ final class TextSentences extends Sentences {
         feed("hand 7 0 9;wear 0;  ");
         is(0, "family", 20);
         is(1, "told", 0);
+        nothingIsLeft();
 
         against(3, ": how many PUPPETS;");
         fine(0, HAND);
@@ -159,6 +160,40 @@ final class TextSentences extends Sentences {
         fine(0, "");
     }
 
+    /** Of the families that were told before, or had a fault, nothing is left in the next. */
+    private void nothingIsLeft() {
+        String all = HAND.repeat(9) + "puppet 1 2 9;".repeat(8) + "works 0 0;works 1 0;quarrel 0 1;quarrel 1 1;quarrel 2 1;"
+            + "silent 0 1;silent 1 2;owes 0 1 9;owes 1 0 8;owes 2 0 7;act 9 0 1 2 3 4 5 end;act 9 5 4 3 end;wear 9;";
+        String little = HAND + HAND + HAND + "puppet 1 1 9;puppet 1 1 9;act 0 0 end;act 0 1 0 end;";
+        for (int before = 0; before < 4; before++) {
+            fresh();
+            if (before == 0 || before == 3) call("family", feed(all + "x"));
+            if (before == 1 || before == 3) family(all);
+            if (before == 2 || before == 3) {
+                family(all);
+                family(PUPPET);
+            }
+            is(2, "family", feed(little));
+            is(3, "told", 0);
+            is(2, "told", 2);
+            is(3, "speaks");
+            for (int h = 0; h < 3; h++) {
+                is(0, "hand", h, 4);
+                is(0, "net", h);
+                for (int g = 0; g < 3; g++) is(0, "owes", h, g);
+            }
+            is(3, "casts", 0);
+            is(6, "casts", 1);
+            is(1, "act", 0, 1);
+            is(3, "act", 1, 1);
+            is(0, "chooses", 1);
+            is(3, "orphans");
+            answer("years", 1);
+            is(8, "puppet", 0, 2);
+            is(2, "puppet", 1, 3);
+        }
+    }
+
     private void familyKeepsOrClears() {
         against(3, "(YEAR 0; no LAW, BOOK, IMAGES, nothing to undo)");
         rich();
@@ -166,7 +201,8 @@ final class TextSentences extends Sentences {
         is(3, "told", 6);
         is(2, "count", 0);
         is(3, "count", 2);
-        answer("book", 0);
+        // a text of the one letter that comes first is a fault, and empties the tape
+        call("law", 1);
         int n = feed(RICH);
         is(3, "family", n);
         is(0, "told", 3);
@@ -426,6 +462,8 @@ final class TextSentences extends Sentences {
         fault(TOO_MANY, six + "^act 1 0 end;");
         fault(CANNOT_STAND, PUPPET + "act^;");
         fault(CANNOT_STAND, PUPPET + "act ^end;");
+        fault(CANNOT_STAND, PUPPET + "act 1^;");
+        fault(CANNOT_STAND, PUPPET + "act 1 ^;");
         fault(CANNOT_STAND, PUPPET + "act 1 0^;");
         fault(CANNOT_STAND, PUPPET + "act 1 0 ^act;");
         fault(CANNOT_STAND, PUPPET + "act 1 0 end^0 ;");
@@ -583,6 +621,16 @@ final class TextSentences extends Sentences {
         fault(CANNOT_STAND, "^hAnd 1 0 0;");
         fault(CANNOT_STAND, "hand^A 1 0 0;");
         fault(CANNOT_STAND, "^" + "z".repeat(600));
+        fault(CANNOT_STAND, "^handz 1 0 0;");
+        fault(CANNOT_STAND, "^handa 1 0 0;");
+        for (String word : new String[] {"hand 1 0 0;", "puppet 1 1 1;", "works 0 0;", "quarrel 0 0;", "silent 0 1;", "act 1 0 end;",
+            "owes 0 1 1;", "wear 1;"}) {
+            fine(word.startsWith("puppet") ? 2 : 1, HAND + HAND + PUPPET + word);
+            for (int i = 0; i < word.indexOf(' '); i++) {
+                fault(CANNOT_STAND, HAND + HAND + PUPPET + "^" + word.substring(0, i) + 'z' + word.substring(i + 1));
+                fault(CANNOT_STAND, HAND + HAND + PUPPET + "^" + word.substring(0, i) + word.substring(i + 1));
+            }
+        }
         fault(CANNOT_STAND, "^` 1;");
         fault(CANNOT_STAND, "^{ 1;");
         fault(CANNOT_STAND, "wear^` 1;");
