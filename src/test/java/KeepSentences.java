@@ -36,6 +36,7 @@ final class KeepSentences extends Sentences {
     @Override
     void hold() {
         asked();
+        lastOfAll();
         refusedElements();
         refusedArguments();
         never();
@@ -67,6 +68,27 @@ final class KeepSentences extends Sentences {
             isUntouched(true, asked);
         }
         if (!names.equals(names())) fail("not all calls are tried, of " + names());
+    }
+
+    /** Of nine HANDS, eight PUPPETS and six ACTS, the most that there are, the last are there in every call. */
+    private void lastOfAll() {
+        against(8, "no such HAND, PUPPET, ACT (so below, ahead of others).");
+        StringBuilder full = new StringBuilder("hand 1 0 0;".repeat(9) + "puppet 1 1 30;".repeat(8));
+        for (int p = 0; p < 8; p++) full.append("works ").append(p).append(' ').append(p).append(';');
+        told(full + "act 9 7 end;".repeat(6) + "owes 8 0 99;");
+        String[] due = {"fault -1", "told 0 9", "told 1 8", "told 2 6", "hand 8 3 1", "puppet 7 3 128", "act 5 1 128", "score 7 8 2",
+            "chooses 7 8", "since 8 7 -1", "since 7 7 0", "chose 8 -1", "ahead 7 60 128", "when 8 7 -1", "when 7 7 1", "last 5 22", "casts 5 9",
+            "cast 5 7 1", "lacking 5 0", "played 63", "cost 8 0", "dearest 0", "lies 7 8 2", "dropped 7 2 511", "right 0", "limps 8 1023",
+            "nights 1", "night 8 0", "fair 63 24", "gets 8 999 0 0", "gets 7 999 0 30", "gets 7 239 1 29", "owes 8 0 99", "owes 0 8 0",
+            "net 8 -99", "net 0 99", "heir 7 7 8", "heir 7 8 -1", "orphans 0", "idle 256", "practise 8 7 0", "mute 0", "slack 31 255",
+            "slack 30 0", "fades 7 30", "both 0 5 0", "thumbs 5 0", "first 0 0", "first 1 0", "reach 8 128", "speaks 36",
+            "fates 5 0 40 0 9", "fates 5 16 1 1 8", "fates 5 0 1 2 6", "fates 5 0 1 3 232", "span 5 20 0 40 2 8 20", "give 7 7 8 1",
+            "hand 8 4 128", "string 7 1 30", "dies 8 1", "hand 8 3 2"};
+        for (String line : due) {
+            int[] numbers = argumentsOf(line);
+            int last = numbers.length - 1;
+            is(numbers[last], nameOf(line), Arrays.copyOf(numbers, last));
+        }
     }
 
     private void refusedElements() {
